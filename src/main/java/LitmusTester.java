@@ -72,7 +72,6 @@ public final class LitmusTester {
     private final Findings sequential = new Findings();
     private final Findings firstInFirstOut = new Findings();
     private final Findings reordered = new Findings();
-    private final Trials trials = new Trials();
     private final Changes changes = new Changes();
     private final Explanation explanation = new Explanation(program);
 
@@ -131,7 +130,6 @@ public final class LitmusTester {
         sequential.forget();
         firstInFirstOut.forget();
         reordered.forget();
-        trials.forget();
         explanation.forget();
     }
 
@@ -205,9 +203,13 @@ public final class LitmusTester {
         }
     }
 
-    /** What the program does in a model, explored at the first question about it. */
+    private Findings kept(int model) {
+        return model == SEQUENTIAL ? sequential : model == FIRST_IN_FIRST_OUT ? firstInFirstOut : reordered;
+    }
+
+    /** The findings are made at the first question about them. */
     private Findings findings(int model) {
-        Findings found = model == SEQUENTIAL ? sequential : model == FIRST_IN_FIRST_OUT ? firstInFirstOut : reordered;
+        Findings found = kept(model);
         if (!found.isKnown()) {
             explorer.explore(model, program.waits());
             explorer.report(found);
@@ -360,21 +362,21 @@ public final class LitmusTester {
             throw new IllegalArgumentException("no such gap");
         }
         tryFences(model, gaps);
-        return trials.matches(model, gaps);
+        return kept(model).fencedMatches(gaps);
     }
 
     private void tryFences(int model, int gaps) {
-        if (!trials.isKnown(model, gaps)) {
+        Findings found = kept(model);
+        if (found.fencedOutcomes(gaps) == NONE) {
             explorer.explore(model, program.waitsWith(gaps));
-            trials.keep(model, gaps, explorer.outcomes(), explorer.matches());
+            found.keepFenced(gaps, explorer.outcomes(), explorer.matches());
         }
     }
 
     public int fewestFences(int model) throws IllegalArgumentException {
         requireModel(model);
-        tryFences(SEQUENTIAL, 0);
         // Fences take away no outcome of model 0: if one of these matches, no set of gaps forbids it.
-        return trials.matches(SEQUENTIAL, 0) > 0 ? NONE : smallestSet(model, false);
+        return matchCount(SEQUENTIAL) > 0 ? NONE : smallestSet(model, false);
     }
 
     public int repairingFences(int model) throws IllegalArgumentException {
@@ -383,13 +385,16 @@ public final class LitmusTester {
     }
 
     private int smallestSet(int model, boolean repairing) {
-        tryFences(SEQUENTIAL, 0);
+        // Committing every store at once is what model 0 does, so that each model has all outcomes of
+        // model 0, whatever fences there are: as many outcomes are the same outcomes.
+        int outcomes = findings(SEQUENTIAL).size();
         int sets = 1 << program.gaps();
         for (int size = 0; size <= MAX_GAPS; size++) {
             for (int set = 0; set < sets; set++) {
                 if (Integer.bitCount(set) == size) {
                     tryFences(model, set);
-                    if (repairing ? trials.isSequential(model, set) : trials.matches(model, set) == 0) {
+                    Findings found = kept(model);
+                    if (repairing ? found.fencedOutcomes(set) == outcomes : found.fencedMatches(set) == 0) {
                         return set;
                     }
                 }
@@ -814,8 +819,9 @@ public final class LitmusTester {
         /** The limits of the units end the loops and the recursion of the condition. */
         private boolean readCondition(int depth) {
             boolean more = true;
-            for (int ors = 0; ors < MAX_UNITS && more; ors++) {
-                for (int ands = 0; ands < MAX_UNITS && more; ands++) {
+            // One round more than there may be units, because the last round reports the unit too many.
+            for (int ors = 0; ors <= MAX_UNITS && more; ors++) {
+                for (int ands = 0; ands <= MAX_UNITS && more; ands++) {
                     if (!readUnit(depth)) {
                         return false;
                     }
@@ -1735,15 +1741,23 @@ public final class LitmusTester {
         }
     }
 
-    /** The outcomes of the program in one model, and what else was counted there. */
+    /** The outcomes of the program in one model, and what was counted there with fences in gaps. */
     private static final class Findings {
         private static final int FIRST_ROOM = 16;
+        private static final int MAX_HALVINGS = 32;
 
         private int[] codes = new int[FIRST_ROOM];
         private long[] executions = new long[FIRST_ROOM];
         private int size = 0;
         private int states = 0;
         private boolean known = false;
+        // Of each set of gaps, because the searches ask for the same sets again; NONE until counted.
+        private final int[] fencedOutcomes = new int[1 << MAX_GAPS];
+        private final int[] fencedMatches = new int[1 << MAX_GAPS];
+
+        Findings() {
+            Arrays.fill(fencedOutcomes, NONE);
+        }
 
         boolean isKnown() {
             return known;
@@ -1751,6 +1765,22 @@ public final class LitmusTester {
 
         void forget() {
             known = false;
+            Arrays.fill(fencedOutcomes, NONE);
+        }
+
+        void keepFenced(int gaps, int outcomes, int matches) {
+            if (gaps >= 0 && gaps < fencedOutcomes.length && gaps < fencedMatches.length) {
+                fencedOutcomes[gaps] = outcomes;
+                fencedMatches[gaps] = matches;
+            }
+        }
+
+        int fencedOutcomes(int gaps) {
+            return gaps >= 0 && gaps < fencedOutcomes.length ? fencedOutcomes[gaps] : NONE;
+        }
+
+        int fencedMatches(int gaps) {
+            return gaps >= 0 && gaps < fencedMatches.length ? fencedMatches[gaps] : NONE;
         }
 
         int size() {
@@ -1808,7 +1838,7 @@ public final class LitmusTester {
         int placeOf(int code) {
             int low = 0;
             int high = size - 1;
-            for (int halving = 0; halving < Integer.SIZE && low <= high; halving++) {
+            for (int halving = 0; halving < MAX_HALVINGS && low <= high; halving++) {
                 int middle = (low + high) / 2;
                 if (codeAt(middle) == code) {
                     return middle;
@@ -1829,56 +1859,6 @@ public final class LitmusTester {
                 values |= 1 << (codeAt(index) >> shift & MAX_VALUE);
             }
             return values;
-        }
-    }
-
-    /** What was counted with fences in sets of gaps; the searches ask for the same sets again. */
-    private static final class Trials {
-        private final int[] outcomes = new int[MODELS << MAX_GAPS];
-        private final int[] matches = new int[MODELS << MAX_GAPS];
-        private boolean clean = false;
-
-        void forget() {
-            clean = false;
-        }
-
-        private int placeOf(int model, int gaps) {
-            boolean known = model >= 0 && model < MODELS && gaps >= 0 && gaps < 1 << MAX_GAPS;
-            return known ? model << MAX_GAPS | gaps : 0;
-        }
-
-        boolean isKnown(int model, int gaps) {
-            return clean && outcomes(model, gaps) != NONE;
-        }
-
-        int outcomes(int model, int gaps) {
-            int place = placeOf(model, gaps);
-            return place < outcomes.length ? outcomes[place] : NONE;
-        }
-
-        /**
-         * Committing every store at once is what model 0 does, so that each model has all outcomes of
-         * model 0, whatever fences there are: as many outcomes are the same outcomes.
-         */
-        boolean isSequential(int model, int gaps) {
-            return outcomes(model, gaps) == outcomes(SEQUENTIAL, 0);
-        }
-
-        int matches(int model, int gaps) {
-            int place = placeOf(model, gaps);
-            return place < matches.length ? matches[place] : NONE;
-        }
-
-        void keep(int model, int gaps, int newOutcomes, int newMatches) {
-            if (!clean) {
-                Arrays.fill(outcomes, NONE);
-                clean = true;
-            }
-            int place = placeOf(model, gaps);
-            if (place < outcomes.length && place < matches.length) {
-                outcomes[place] = newOutcomes;
-                matches[place] = newMatches;
-            }
         }
     }
 
