@@ -30,6 +30,7 @@ public final class LitmusTester {
     private static final int MAX_CHANGES = 8;
     // Every store makes a second step when it is committed.
     private static final int MAX_STEPS = MAX_INSTRUCTIONS + MAX_ACCESSES;
+    private static final int STEPS_OF_A_THREAD = 10;
 
     private static final int MAX_UNITS = 16;
     private static final int MAX_NESTING = 4;
@@ -462,13 +463,8 @@ public final class LitmusTester {
 
     public int explain(int model, int code) throws IllegalArgumentException {
         requireModel(model);
-        if (findings(model).placeOf(code) == NONE) {
-            return NONE;
-        }
-        explorer.explore(model, program.waits());
-        explorer.keepWaysTo(code);
-        explorer.recordFirstExecution(explanation);
-        return explanation.size();
+        boolean found = findings(model).placeOf(code) != NONE && explorer.findFirst(model, code, explanation);
+        return found ? explanation.size() : NONE;
     }
 
     public int step(int index) {
@@ -1505,6 +1501,14 @@ public final class LitmusTester {
             }
         }
 
+        /** Whether the step read another value than the code has, for a register changes only once. */
+        boolean isContradicted(long state, long after, int thread, int code) {
+            int i = next(state, thread);
+            boolean executed = i >= 0 && i < MAX_INSTRUCTIONS && next(after, thread) != i;
+            boolean read = executed && (kinds[i] == LOAD || kinds[i] == SWAP);
+            return read && ((after ^ code) >> targetShifts[i] & MAX_VALUE) != 0;
+        }
+
         private long written(long state, int i, int value) {
             boolean known = i >= 0 && i < MAX_INSTRUCTIONS;
             return known ? withDigit(state, locationShifts[i], value) : state;
@@ -1573,12 +1577,6 @@ public final class LitmusTester {
             return number >= 0 && number < size && number < ways.length ? ways[number] : 0;
         }
 
-        void setWays(int number, long newWays) {
-            if (number >= 0 && number < size && number < ways.length) {
-                ways[number] = newWays;
-            }
-        }
-
         /** The slot of a state, or the free slot where it belongs. */
         private int slotOf(long state) {
             long mixed = state * 0x9E3779B97F4A7C15L;
@@ -1592,9 +1590,9 @@ public final class LitmusTester {
             return slot;
         }
 
-        int numberOf(long state) {
+        boolean contains(long state) {
             int slot = slotOf(state);
-            return slot >= 0 && slot < slots.length ? slots[slot] - 1 : NONE;
+            return slot >= 0 && slot < slots.length && slots[slot] != 0;
         }
 
         /** Adds ways to a state, which is a new one if it was not found before. */
@@ -1639,6 +1637,7 @@ public final class LitmusTester {
         private final Program program;
         private final Machine machine;
         private final StateTable table = new StateTable();
+        private final int[] path = new int[MAX_STEPS];
 
         Explorer(Program program) {
             this.program = program;
@@ -1698,46 +1697,48 @@ public final class LitmusTester {
             found.sort();
         }
 
-        /** Gives each state 1 way if an outcome with the code can follow it, and 0 if none can. */
-        void keepWaysTo(int code) {
-            for (int number = table.size() - 1; number >= 0; number--) {
-                long state = table.stateAt(number);
-                boolean leads = machine.isFinal(state) && Machine.codeOf(state) == code;
-                for (int thread = 0; thread < machine.threads() && !leads; thread++) {
-                    int parts = machine.parts(state, thread);
-                    for (int part = 0; part < parts && !leads; part++) {
-                        leads = isKept(machine.after(state, thread, part));
-                    }
-                }
-                table.setWays(number, leads ? 1 : 0);
+        /** Finds the first execution with an outcome; false if there is none. */
+        boolean findFirst(int model, int code, Explanation explanation) {
+            machine.prepare(model, program.waits());
+            table.clear();
+            if (!leadsTo(code, machine.start(), 0)) {
+                return false;
             }
-        }
-
-        private boolean isKept(long state) {
-            return state != NONE && table.waysAt(table.numberOf(state)) != 0;
-        }
-
-        /** Takes the least step that leads to the code, again and again. */
-        void recordFirstExecution(Explanation explanation) {
             explanation.begin();
             long state = machine.start();
             for (int taken = 0; taken < MAX_STEPS && !machine.isFinal(state); taken++) {
-                state = recordLeastStep(state, explanation);
+                int thread = path[taken] / STEPS_OF_A_THREAD;
+                int part = path[taken] % STEPS_OF_A_THREAD;
+                explanation.addStep(machine, state, thread, part);
+                state = machine.after(state, thread, part);
             }
+            return true;
         }
 
-        private long recordLeastStep(long state, Explanation explanation) {
+        /**
+         * Takes the least steps first, so that the first way found is the first execution. The table
+         * holds the states that were tried: as the search ends with the first way, none of them leads on.
+         */
+        private boolean leadsTo(int code, long state, int depth) {
+            if (machine.isFinal(state)) {
+                return Machine.codeOf(state) == code;
+            }
+            if (depth < 0 || depth >= MAX_STEPS || table.contains(state)) {
+                return false;
+            }
+            table.add(state, 0);
             for (int thread = 0; thread < machine.threads(); thread++) {
                 int parts = machine.parts(state, thread);
                 for (int part = 0; part < parts; part++) {
                     long next = machine.after(state, thread, part);
-                    if (isKept(next)) {
-                        explanation.addStep(machine, state, thread, part);
-                        return next;
+                    boolean possible = next != NONE && !machine.isContradicted(state, next, thread, code);
+                    if (possible && leadsTo(code, next, depth + 1)) {
+                        path[depth] = STEPS_OF_A_THREAD * thread + part;
+                        return true;
                     }
                 }
             }
-            return state;
+            return false;
         }
     }
 
@@ -1898,7 +1899,7 @@ public final class LitmusTester {
         /** Adds the step that the machine makes in a state. */
         void addStep(Machine machine, long state, int thread, int part) {
             if (size < MAX_STEPS) {
-                steps[size] = 10 * thread + part;
+                steps[size] = STEPS_OF_A_THREAD * thread + part;
                 size++;
             }
             if (part != 0) {
