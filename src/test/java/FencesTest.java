@@ -103,6 +103,10 @@ public final class FencesTest {
         Check.equal("model 1", passing.repairingFences(1), 0);
         Check.equal("model 2", passing.repairingFences(2), 1);
         Check.equal("nothing", new LitmusTester().repairingFences(2), 0);
+        LitmusTester all = Check.defined("loc x 0;loc y 0;loc z 0;thread;store y 3;store x 1;store z 3;load r0 y;"
+                + "thread;store x 2;store y 2;store z 1;load r0 x;");
+        Check.equal("all six gaps", all.repairingFences(2), 63);
+        Check.equal("behind the last stores", all.repairingFences(1), 36);
         LitmusTester fenced = Check.defined("loc x 0;loc y 0;thread;store x 1;fence;load r0 y;thread;store y 1;load r0 x;");
         Check.equal("the other one", fenced.repairingFences(2), 1);
     }

@@ -2,7 +2,10 @@ import java.util.ArrayList;
 import java.util.List;
 import java.util.TreeSet;
 
-/** Compares every answer about some hundred programs with the slow and literal execution of them. */
+/**
+ * Compares every answer about some hundred programs with the slow and literal execution of them. The class
+ * answers beyond its 512th call as before, which the document leaves free; this test makes use of it.
+ */
 public final class OracleTest {
     private static String text;
 
@@ -17,7 +20,7 @@ public final class OracleTest {
             if (round % 4 == 0) {
                 tester = new LitmusTester();
             }
-            compare(dice, tester, accesses);
+            compare(dice, tester, round % 8 == 0 ? 8 : accesses);
         }
         Check.end();
     }
