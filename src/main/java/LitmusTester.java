@@ -861,10 +861,11 @@ public final class LitmusTester {
                 return readComparison();
             }
             tokens.advance();
-            if (sign == Sign.OPEN) {
-                return readCondition(depth + 1) && expect(Sign.CLOSE);
-            }
-            boolean read = readUnit(depth + 1);
+            return sign == Sign.NOT ? readNegated(depth + 1) : readCondition(depth + 1) && expect(Sign.CLOSE);
+        }
+
+        private boolean readNegated(int depth) {
+            boolean read = readUnit(depth);
             program.addToCondition(Program.NOT);
             return read;
         }
@@ -1723,16 +1724,20 @@ public final class LitmusTester {
             if (machine.isFinal(state)) {
                 return Machine.codeOf(state) == code;
             }
-            if (depth < 0 || depth >= MAX_STEPS || table.contains(state)) {
+            if (depth >= MAX_STEPS || table.contains(state)) {
                 return false;
             }
             table.add(state, 0);
+            return hasStepTo(code, state, depth);
+        }
+
+        private boolean hasStepTo(int code, long state, int depth) {
             for (int thread = 0; thread < machine.threads(); thread++) {
                 int parts = machine.parts(state, thread);
                 for (int part = 0; part < parts; part++) {
                     long next = machine.after(state, thread, part);
                     boolean possible = next != NONE && !machine.isContradicted(state, next, thread, code);
-                    if (possible && leadsTo(code, next, depth + 1)) {
+                    if (possible && depth >= 0 && depth < MAX_STEPS && leadsTo(code, next, depth + 1)) {
                         path[depth] = STEPS_OF_A_THREAD * thread + part;
                         return true;
                     }
