@@ -242,21 +242,19 @@ public final class BoundsOfCallsTest {
 
     /** "if there is an error, -(8 * offset + kind), and the current program stays." */
     private static void defineWithAnError() {
-        LitmusTester x = Check.defined(BUFFERING + BOTH_ZERO);
-        x.insertFence(0);
-        String text = Check.written(x);
         String[] wrong = {"#", "loc z 3;loc", "loc z 4;", "loc z 1;loc z 1;", "loc z 0;thread;store x 1;", "thread;".repeat(5),
-            "loc z 0;thread;store z 1;exists z=1", "loc z 0;thread;store z 1;exists z=1;;"};
-        int[] due = {-1, -89, -50, -99, -(8 * 21 + 4), -(8 * 28 + 5), -(8 * 35 + 1), -(8 * 36 + 1)};
+            "loc z 0;thread;store z 1;exists z=1", "loc z 0;thread;store z 1;exists z=1;;", " ".repeat(593) + "loc z 0"};
+        int[] due = {-1, -89, -50, -99, -(8 * 21 + 4), -(8 * 28 + 5), -(8 * 35 + 1), -(8 * 36 + 1), -4801};
         for (int i = 0; i < wrong.length; i++) {
+            LitmusTester x = Check.defined(BUFFERING + BOTH_ZERO);
+            x.insertFence(0);
             Check.equal("define of " + wrong[i], Check.define(x, wrong[i]), due[i]);
-            Check.equal("the program", Check.written(x), text);
+            Check.equal("the program", Check.written(x), FENCED);
             Check.equal("its condition", x.matchCount(1), 1);
             Check.equal("its outcomes", Check.outcomes(x, 1), List.of(5, 69, 1029, 1093));
+            Check.equal("the change", x.undo(), 0);
+            Check.equal("the program", Check.written(x), BUFFERING);
         }
-        Check.equal("the greatest offset", Check.define(x, " ".repeat(593) + "loc z 0"), -4801);
-        Check.equal("the change", x.undo(), 0);
-        Check.equal("the program", Check.written(x), BUFFERING);
     }
 
     /** Promises 6 to 8: "the number of threads", "of locations", "of instructions, fences included". */
@@ -324,22 +322,18 @@ public final class BoundsOfCallsTest {
 
     /** "Writes the program without its condition to the output .. Returns the length of the output." */
     private static void write() {
-        LitmusTester x = new LitmusTester();
-        Check.equal("nothing", x.write(), 0);
+        Check.equal("nothing", new LitmusTester().write(), 0);
         String[] texts = {"loc x 0;", "thread;", "thread;thread;thread;thread;", "thread;fence;", "loc a 3;thread;store a 3;thread;",
             "loc abcdefgh 3;loc ijklmnop 3;loc qrstuvwx 3;thread;load r0 abcdefgh;swap r1 ijklmnop r0;store abcdefgh r0;store qrstuvwx r1;fence;"
-                + "thread;swap r0 abcdefgh 3;swap r1 ijklmnop r0;store yzabcdef r0;store qrstuvwx r1;fence;thread;thread;"};
-        texts[5] = texts[5].replace("yzabcdef", "qrstuvwx");
+                + "thread;swap r0 abcdefgh 3;swap r1 ijklmnop r0;store qrstuvwx r0;store qrstuvwx r1;fence;thread;thread;"};
         for (String text : texts) {
-            Check.define(x, text.replace(" ", "\n ").replace(";", " ;\n").replace("3", "03") + "exists not(" + (text.startsWith("loc")
-                    ? text.substring(4, text.indexOf(' ', 4)) + "=1);" : ""));
-            if (!text.startsWith("loc")) {
-                Check.define(x, text);
-            }
+            String name = text.startsWith("loc") ? text.substring(4, text.indexOf(' ', 4)) : "";
+            String condition = name.isEmpty() ? "" : "exists not (" + name + " = 1);";
+            LitmusTester x = Check.defined("\n " + text.replace(" ", "\n ").replace(";", " ;\n").replace("3", "03") + condition);
             Check.equal("write", x.write(), text.length());
             Check.equal("written", Check.written(x), text);
-            Check.yes("its text is read again", Check.define(x, text) >= 0);
-            Check.equal("written", Check.written(x), text);
+            LitmusTester again = Check.defined(text);
+            Check.equal("written again", Check.written(again), text);
         }
     }
 
@@ -398,11 +392,16 @@ public final class BoundsOfCallsTest {
     /** Promise 15: "code: any int". */
     private static void hasOutcome() {
         LitmusTester x = Check.defined(BUFFERING);
-        int found = 0;
-        for (int code = 0; code < 4096; code++) {
-            found += x.hasOutcome(1, code) ? 1 : 0;
+        // All codes from 0 to 1371, in parts, because an object is used for at most 512 calls.
+        int[] due = {2, 0, 0, 2};
+        for (int part = 0; part < due.length; part++) {
+            LitmusTester fresh = Check.defined(BUFFERING);
+            int found = 0;
+            for (int code = 343 * part; code < 343 * (part + 1); code++) {
+                found += fresh.hasOutcome(1, code) ? 1 : 0;
+            }
+            Check.equal("no other code has one, part " + part, found, due[part]);
         }
-        Check.equal("no other code has one", found, 4);
         for (int code : new int[] {5, 69, 1029, 1093}) {
             Check.yes("the code " + code, x.hasOutcome(1, code));
             Check.equal("the code " + code, x.hasOutcome(0, code), code != 5);
@@ -692,6 +691,14 @@ public final class BoundsOfCallsTest {
         LitmusTester last = Check.defined("loc x 0;loc y 0;thread;load r0 x;load r1 x;thread;load r0 y;store y 1;load r1 x;thread;store x 1;fence;load r0 y;"
                 + "exists 1:r1=0 and 2:r0=0;");
         Check.equal("the last gap", last.fewestFences(1), 4);
+        // A fence in gap 2 orders the stores of thread 2; gaps 0 and 1 have the lesser mask, but they are two.
+        LitmusTester single = Check.defined("loc x 0;loc y 0;loc z 0;thread;store x 1;load r0 y;thread;store y 1;load r0 x;"
+                + "thread;store z 1;store x 2;thread;load r0 x;load r1 z;exists 0:r0=0 and 1:r0=0 and 3:r0=2 and 3:r1=0;");
+        int[] matches = {1, 1, 1, 0, 0, 0, 0, 0};
+        for (int set = 0; set < 8; set++) {
+            Check.equal("the set " + set, single.matchesWith(2, set) > 0, matches[set] > 0);
+        }
+        Check.equal("one gap before two", single.fewestFences(2), 4);
         // It forbids what the condition says, and leaves what else is not in model 0.
         LitmusTester less = Check.defined(XY + "thread;store x 1;load r0 y;thread;store y 1;load r0 x;exists 0:r0=2;");
         Check.equal("nothing to forbid", less.fewestFences(1), 0);
@@ -718,6 +725,13 @@ public final class BoundsOfCallsTest {
         LitmusTester all = Check.defined("loc x 0;loc y 0;loc z 0;thread;store y 3;store x 1;store z 3;load r0 y;"
                 + "thread;store x 2;store y 2;store z 1;load r0 x;");
         Check.equal("all six gaps", all.repairingFences(2), 63);
+        LitmusTester single = Check.defined("loc y 0;loc x 1;thread;store y 3;store x 2;store x 2;fence;load r0 x;thread;load r0 x;"
+                + "thread;store x 3;store x 2;store y 1;");
+        int sequential = single.outcomeCount(0);
+        for (int set = 0; set < 16; set++) {
+            Check.equal("the set " + set, single.matchesWith(2, set) == sequential, set >= 5);
+        }
+        Check.equal("one gap before two", single.repairingFences(2), 8);
         for (int none : NO_MODELS) {
             Check.thrown("no model", ARGUMENT, () -> x.repairingFences(none));
         }
@@ -913,6 +927,14 @@ public final class BoundsOfCallsTest {
         Check.equal("another one", x.explain(0, 1029), 4);
         Check.equal("steps", Check.steps(x), List.of(10, 10, 0, 0));
         Check.equal("without steps", new LitmusTester().explain(2, 0), 0);
+        for (int model = 0; model < 3; model++) {
+            LitmusTester many = Check.defined("loc x 0;thread;store x 3;store x 1;thread;load r0 x;load r1 x;thread;load r0 x;load r1 x;"
+                    + "thread;store x 2;");
+            Check.yes("many outcomes", many.outcomeCount(model) > 40);
+            for (int code : Check.outcomes(many, model)) {
+                Check.equal("each of them", many.explain(model, code), model == 0 ? 7 : 10);
+            }
+        }
     }
 
     /** Promise 38: "Returns the number of the step at that index of the explanation; NONE if there is none." */
@@ -968,6 +990,14 @@ public final class BoundsOfCallsTest {
         Check.equal("explain", ten.explain(2, 4 + 2), 11);
         Check.equal("the 9th instruction", ten.readsFrom(8), 5);
         Check.thrown("the 10th instruction", ELEMENT, () -> ten.readsFrom(9));
+        for (String last : new String[] {"load r1 x", "swap r1 x 2"}) {
+            LitmusTester full = Check.defined("loc x 3;thread;store x 1;thread;fence;fence;fence;fence;thread;fence;fence;fence;fence;" + last + ";");
+            int end = last.startsWith("load") ? 1 : 2;
+            Check.equal("explain", full.explain(1, 4 + end), 11);
+            Check.equal("the 10th instruction", full.readsFrom(9), 0);
+            Check.equal("explain", full.explain(1, 3 * 4 + 1), 11);
+            Check.equal("the 10th instruction, of an initial value", full.readsFrom(9), -1);
+        }
     }
 
     /** Promise 40: "(the initial value does not count); NONE if there is none, or there is no explanation." */

@@ -601,6 +601,10 @@ public final class BoundsOfTextsTest {
         }
         fine(8, fences + "thread;fence;");
         fine(8, "thread;fence;" + fences);
+        for (int thread = 1; thread < 4; thread++) {
+            fine(8, "thread;fence;" + "thread;".repeat(thread - 1) + fences);
+            error(5, "thread;fence;" + "thread;".repeat(thread - 1) + fences + "^fence;");
+        }
     }
 
     /** "5: .. of a 5th one of a thread that is not a fence". */
@@ -618,6 +622,13 @@ public final class BoundsOfTextsTest {
                 error(5, X + "thread;" + four + "fence;^store x 1;");
             }
             fine(size + 1, X + "thread;" + four + "thread;store x 1;");
+            // The same in each of the threads, and with other locations.
+            for (int thread = 1; thread < 4; thread++) {
+                String start = "loc y 0;loc x 0;thread;store y 1;" + "thread;".repeat(thread) + four.replaceFirst("x", "y");
+                fine(size + 1, start + "thread;".repeat(3 - thread));
+                error(5, start + "^store x 1;");
+                error(5, start + "^load r1 y;");
+            }
         }
     }
 
@@ -626,6 +637,10 @@ public final class BoundsOfTextsTest {
         String[] eights = {"thread;store x 1;store x 1;store x 1;store x 1;thread;store x 1;store x 1;store x 1;store x 1;thread;",
             "thread;store x 1;load r0 x;thread;load r0 x;load r1 x;thread;swap r0 x 1;swap r1 x 1;thread;store x 1;store x 2;",
             "thread;load r0 x;thread;store x 1;store x 1;store x 1;store x 1;thread;load r0 x;load r1 x;thread;swap r0 x 1;"};
+        String other = "loc y 0;loc z 0;" + X + eights[1].replaceFirst("x", "y").replaceFirst("x", "z");
+        fine(8, other);
+        error(5, other + "^store y 1;");
+        error(5, other + "^swap r0 z 1;");
         for (String eight : eights) {
             fine(8, X + eight);
             fine(9, X + eight + "fence;");

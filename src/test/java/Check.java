@@ -87,7 +87,8 @@ final class Check {
 
     static List<Integer> outcomes(LitmusTester tester, int model) {
         List<Integer> codes = new ArrayList<>();
-        for (int i = 0; i < tester.outcomeCount(model); i++) {
+        int count = tester.outcomeCount(model);
+        for (int i = 0; i < count; i++) {
             codes.add(tester.outcome(model, i));
         }
         return codes;

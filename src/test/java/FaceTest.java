@@ -76,6 +76,11 @@ public final class FaceTest {
                 Check.no("a private " + method.getName(), names.contains(method.getName()));
             }
         }
+        for (Class<?> inner : LitmusTester.class.getDeclaredClasses()) {
+            for (Method method : inner.getDeclaredMethods()) {
+                Check.no("inside, a " + method.getName(), names.contains(method.getName()));
+            }
+        }
         Check.equal("methods", found, due);
         Check.equal("their number", found.size(), 39);
     }
