@@ -19,7 +19,7 @@ public final class TextFuzzTest {
             if (round % 60 == 0) {
                 tester = new LitmusTester();
             }
-            compare(tester, spoilt(dice));
+            compare(tester, spoilt(dice, 4 + dice.below(6), dice.below(4)));
         }
         System.out.println("answers by kind of error: " + Arrays.toString(KINDS));
         for (int kind = 0; kind <= 5; kind++) {
@@ -42,8 +42,9 @@ public final class TextFuzzTest {
         }
     }
 
-    private static String spoilt(Dice dice) {
-        Naive.Prog prog = dice.program(4 + dice.below(6));
+    /** A text of a random program, changed in some places (in none, if there are no spoils). */
+    static String spoilt(Dice dice, int accesses, int spoils) {
+        Naive.Prog prog = dice.program(accesses);
         StringBuilder text = new StringBuilder(prog.text());
         if (dice.below(2) == 0) {
             text.append("exists ").append(Condition.some(dice, prog, dice.below(6)).text(2));
@@ -54,11 +55,10 @@ public final class TextFuzzTest {
             }
             text.append(";");
         }
-        int spoils = dice.below(4);
         for (int i = 0; i < spoils; i++) {
             spoil(dice, text);
         }
-        if (dice.below(4) == 0) {
+        if (spoils > 0 && dice.below(3) == 0) {
             text.append(PIECES[dice.below(PIECES.length)]);
         }
         return text.substring(0, Math.min(600, text.length()));
